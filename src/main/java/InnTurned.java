@@ -398,7 +398,7 @@ public final class InnTurned {
                 case 1: return regular;
                 case 2: return poor;
                 case 3: return n % 7 == 4 ? regular + 6 : regular;
-                case 4: return w == 0 ? Math.min(3, plain) : plain;
+                case 4: return w == 0 && plain > 3 ? 3 : plain;
                 case 5: return v >= 2 ? poor + 9 : poor;
                 default: return plain;
             }
@@ -980,7 +980,12 @@ public final class InnTurned {
             for (int items = 1; stands && items <= TEXT_BYTES; items++) {
                 script.advance();
                 if (script.token == Script.END) return items;
-                stands = item();
+                if (script.names("wet")) stands = wetItem();
+                else if (script.names("one")) stands = guestItem();
+                else if (script.names("come")) stands = comeItem();
+                else if (script.names("go")) stands = goItem();
+                else if (script.names("letter")) stands = letterItem();
+                else stands = script.names("nights") && nightsItem();
             }
             return FAULT_ANSWER - script.start;
         }
@@ -994,15 +999,6 @@ public final class InnTurned {
             if (rooms < 0) return false;
             site.begin(kind, rooms);
             return stops();
-        }
-
-        private boolean item() {
-            if (script.names("wet")) return wetItem();
-            if (script.names("one")) return guestItem();
-            if (script.names("come")) return comeItem();
-            if (script.names("go")) return goItem();
-            if (script.names("letter")) return letterItem();
-            return script.names("nights") && nightsItem();
         }
 
         private boolean wetItem() {
