@@ -7,7 +7,7 @@ import java.util.Arrays;
  * then not; texts are mostly right, now and then spoilt.
  */
 public final class AgainstPlainTest {
-    private static final int ROWS = 700, CALLS = 250;
+    private static final int ROWS = 1200, CALLS = 500;
     private static final String[] NAMES = {"inn", "landlord", "wet", "one", "type", "clear", "read", "comes",
         "goes", "letter", "nights", "undo", "of", "now", "may", "when", "pen", "order", "seen", "often", "tell",
         "note", "mark", "forget", "is", "look", "kinds", "ask", "door", "rain", "decades", "part", "image",
@@ -18,6 +18,7 @@ public final class AgainstPlainTest {
         6, 5, 2, 5, 5, 4, 4, 6, 6, 5, 2, 3, 3, 2, 2, 0};
 
     private static long state;
+    private static int asked;
     private static InnTurned x;
     private static Plain y;
 
@@ -29,7 +30,8 @@ public final class AgainstPlainTest {
             x = new InnTurned();
             y = new Plain();
             StringBuilder calls = new StringBuilder();
-            for (int k = 0; k < CALLS && call(row, pick(total), calls); k++) calls.append(' ');
+            asked = 0;
+            while (asked < CALLS && call(row, pick(total), calls)) calls.append(' ');
             for (int k = 0; k < 3; k++) Due.due("status(" + k + ")", x.status(k), y.status(k));
         }
         Due.end();
@@ -58,7 +60,7 @@ public final class AgainstPlainTest {
     }
 
     private static int guest() {
-        return number(0, Math.max(0, x.count(0) - 1));
+        return number(0, Math.max(0, y.count(0) - 1));
     }
 
     private static boolean call(int row, int place, StringBuilder calls) throws ReflectiveOperationException {
@@ -66,7 +68,8 @@ public final class AgainstPlainTest {
         int a = first(name), b = second(name, a), c = third(name), d = name.equals("seen") ? number(0, 1) : number(0, 99);
         int e = name.equals("note") ? noted(a, b, c, d) : 0;
         calls.append(name + "(" + a + " " + b + " " + c + " " + d + " " + e + ")");
-        if (name.equals("read")) typeText();
+        if (name.equals("read") && asked < CALLS - 160) typeText();
+        asked += 2;
         long got = ask(x, name, a, b, c, d, e), want = ask(y, name, a, b, c, d, e);
         Due.promise("row " + row + ": " + (got == want ? "" : calls.toString()));
         Due.due(name, got, want);
@@ -143,6 +146,7 @@ public final class AgainstPlainTest {
             }
         }
         spoil(text);
+        asked += 1 + text.length();
         Due.due("clear", x.clear(), y.clear());
         for (int k = 0; k < text.length(); k++) Due.due("type", x.type(text.charAt(k)), y.type(text.charAt(k)));
     }

@@ -34,7 +34,9 @@ public final class InnTest {
     private static void inn() {
         Due.promise("promise 2");
         InnTurned x = new InnTurned();
+        x.wet(0, 4);
         Due.due("inn(5, 7)", x.inn(5, 7), 0);
+        Due.due("dry again", x.now(5), 0);
         Due.due("kind", x.now(0), 5);
         Due.due("rooms", x.now(1), 7);
         Due.due("inn(0, 0)", x.inn(0, 0), 0);
@@ -197,6 +199,7 @@ public final class InnTest {
     private static void readEdges() {
         InnTurned x = new InnTurned();
         Due.due("an inn alone", Due.read(x, "inn 5 7;"), 1);
+        Due.due("is one", x.now(0) * 10 + x.now(1), 57);
         Due.due("no blanks where none are needed", Due.read(x, "inn0 7;one0 0;wet0 1 2 3 4 0;come0;"), 4);
         Due.due("night 4", x.wet(4, 0), 4);
         Due.due("blanks everywhere", Due.read(x, "  inn  05  07 ;  nights  9 ; nights 99 ;  "), 3);
@@ -204,17 +207,21 @@ public final class InnTest {
         Due.due("landlord", x.now(0), 5);
         Due.due("one wet", Due.read(x, "inn 0 0;wet 4;wet 0 3;"), 3);
         Due.due("a later wet takes its places alone", x.wet(0, 0) * 10 + x.wet(1, 0), 3);
+        x = new InnTurned();
         Due.due("seven", Due.read(x, "inn 0 7;one 0 0;one 1 1;one 2 2;one 3 3;one 4 4;one 5 5;one 0 9;letter 6 9;"), 9);
         Due.due("travellers", x.count(0), 7);
         Due.due("wet told behind a coming counts from there", Due.read(x, "inn 2 7;one 0 5;come 0;wet 3;come 0;"), 5);
         Due.due("turned first", x.now(3), 1);
         Due.due("in then", x.count(1), 1);
+        Due.due("a letter with no word, of one who is in", Due.read(x, "inn 0 7;one 0 4;come 0;letter 0 0;letter 0 0;"), 5);
+        Due.due("no word", x.of(0, 1), 0);
         x.seen(0, 1, 1, 1);
         x.note(0, 1, 1, 1, 1);
         x.mark(1, 1, 1);
         x.comes(0);
         Due.due("read", x.read(), 5);
         for (int k = 4; k <= 7; k++) Due.due("none of count(" + k + ")", x.count(k), 0);
+        x = new InnTurned();
         StringBuilder full = new StringBuilder("inn 0 3;");
         while (full.length() < 140) full.append("nights99;");
         while (full.length() < 150) full.append(' ');
@@ -223,63 +230,71 @@ public final class InnTest {
     }
 
     private static void readFaults() {
-        InnTurned x = new InnTurned();
-        fault(x, "", 0);
-        fault(x, "   ", 3);
-        fault(x, "inn", 3);
-        fault(x, "inn ", 4);
-        fault(x, "inn 0 3", 7);
-        fault(x, "inn 0 3;one", 11);
-        fault(x, "inn 0 3;wet 1 2", 15);
-        fault(x, "inn 0 3;nights 5 ", 17);
-        fault(x, "in", 0);
-        fault(x, " inns 0 3;", 1);
-        fault(x, ";", 0);
-        fault(x, "5", 0);
-        fault(x, "one 0 0;inn 0 3;", 0);
-        fault(x, "inn 0 3;inn 0 3;", 8);
-        fault(x, "inn 6 3;", 4);
-        fault(x, "inn 0 8;", 6);
-        fault(x, "inn 000 3;", 4);
-        fault(x, "inn 0 003;", 6);
-        fault(x, "inn 0 1234", 6);
-        fault(x, "inn 0;", 5);
-        fault(x, "inn 0 3 3;", 8);
-        fault(x, "inn;", 3);
-        fault(x, "inn x 3;", 4);
-        fault(x, "inn 0 3;;", 8);
-        fault(x, "inn 0 3;Come", 8);
-        fault(x, "inn 0 3;\t", 8);
-        fault(x, "inn 0 3;comes 0;", 8);
-        fault(x, "inn 0 3;com 0;", 8);
-        fault(x, "inn 0 3;7;", 8);
-        fault(x, "inn 0 3;wet;", 11);
-        fault(x, "inn 0 3;wet 5;", 12);
-        fault(x, "inn 0 3;wet 0 0 0 0 0 0 0;", 24);
-        fault(x, "inn 0 3;wet 0 0 0 0 0 0", 23);
-        fault(x, "inn 0 3;one 6 0;", 12);
-        fault(x, "inn 0 3;one 0 10;", 14);
-        fault(x, "inn 0 3;one 0;", 13);
-        fault(x, "inn 0 3;one 0 0;come 1;", 21);
-        fault(x, "inn 0 3;come 0;", 13);
-        fault(x, "inn 0 3;one 0 0;come 0;come 0;", 28);
-        fault(x, "inn 0 3;one 0 0;go 0;", 19);
-        fault(x, "inn 0 3;go 0;", 11);
-        fault(x, "inn 0 0;one 0 0;come 0;go 0;", 26);
-        fault(x, "inn 0 3;one 0 0;come 0;go 0;go 0;", 31);
-        fault(x, "inn 0 3;letter 0 0;", 15);
-        fault(x, "inn 0 3;one 0 0;letter 0 10;", 25);
-        fault(x, "inn 0 3;one 0 0;letter 0;", 24);
-        fault(x, "inn 0 3;nights 0;", 15);
-        fault(x, "inn 0 3;nights 100;", 15);
-        fault(x, "inn 0 3;nights;", 14);
-        fault(x, "inn 0 7;one 0 0;one 0 0;one 0 0;one 0 0;one 0 0;one 0 0;one 0 0;one 0 0;", 64);
-        fault(x, "inn 0 7;one 0 0;one 0 0;one 0 0;one 0 0;one 0 0;one 0 0;one 0 0;one", 64);
-        Due.due("no fault is a status", x.status(0) + x.status(1) + x.status(2), 0);
+        fault("", 0);
+        fault("   ", 3);
+        fault("inn", 3);
+        fault("inn ", 4);
+        fault("inn 0 3", 7);
+        fault("inn 0 3;one", 11);
+        fault("inn 0 3;wet 1 2", 15);
+        fault("inn 0 3;nights 5 ", 17);
+        fault("in", 0);
+        fault(" inns 0 3;", 1);
+        fault("inna 0 3;", 0);
+        fault("innz 0 3;", 0);
+        fault("inn` 0 3;", 3);
+        fault("inn{ 0 3;", 3);
+        fault("inn 0/3;", 5);
+        fault("inn 0:3;", 5);
+        fault("inn 0 3:", 7);
+        fault("jnn 0 3;", 0);
+        fault(";", 0);
+        fault("5", 0);
+        fault("one 0 0;inn 0 3;", 0);
+        fault("inn 0 3;inn 0 3;", 8);
+        fault("inn 6 3;", 4);
+        fault("inn 0 8;", 6);
+        fault("inn 000 3;", 4);
+        fault("inn 0 003;", 6);
+        fault("inn 0 1234", 6);
+        fault("inn 0;", 5);
+        fault("inn 0 3 3;", 8);
+        fault("inn;", 3);
+        fault("inn x 3;", 4);
+        fault("inn 0 3;;", 8);
+        fault("inn 0 3;Come", 8);
+        fault("inn 0 3;\t", 8);
+        fault("inn 0 3;comes 0;", 8);
+        fault("inn 0 3;com 0;", 8);
+        fault("inn 0 3;7;", 8);
+        fault("inn 0 3;wet;", 11);
+        fault("inn 0 3;wet 5;", 12);
+        fault("inn 0 3;wet 0 0 0 0 0 0 0;", 24);
+        fault("inn 0 3;wet 0 0 0 0 0 0", 23);
+        fault("inn 0 3;one 6 0;", 12);
+        fault("inn 0 3;one 0 10;", 14);
+        fault("inn 0 3;one 0;", 13);
+        fault("inn 0 3;one 0 0;come 1;", 21);
+        fault("inn 0 3;come 0;", 13);
+        fault("inn 0 3;one 0 0;come 0;come 0;", 28);
+        fault("inn 0 3;one 0 0;go 0;", 19);
+        fault("inn 0 3;go 0;", 11);
+        fault("inn 0 0;one 0 0;come 0;go 0;", 26);
+        fault("inn 0 3;one 0 0;come 0;go 0;go 0;", 31);
+        fault("inn 0 3;letter 0 0;", 15);
+        fault("inn 0 3;one 0 0;letter 0 10;", 25);
+        fault("inn 0 3;one 0 0;letter 0;", 24);
+        fault("inn 0 3;nights 0;", 15);
+        fault("inn 0 3;nights 100;", 15);
+        fault("inn 0 3;nights;", 14);
+        fault("inn 0 7;one 0 0;one 0 0;one 0 0;one 0 0;one 0 0;one 0 0;one 0 0;one 0 0;", 64);
+        fault("inn 0 7;one 0 0;one 0 0;one 0 0;one 0 0;one 0 0;one 0 0;one 0 0;one", 64);
     }
 
-    private static void fault(InnTurned x, String text, int place) {
+    private static void fault(String text, int place) {
+        InnTurned x = new InnTurned();
         Due.due("read of [" + text + "]", Due.read(x, text), -10 - place);
+        Due.due("no fault is a status", x.status(0) + x.status(1) + x.status(2), 0);
     }
 
     private static void readFaultsKeepAll() {

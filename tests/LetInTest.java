@@ -121,6 +121,14 @@ public final class LetInTest {
         orderIs(Due.told("inn 0 7;one 0 4;one 0 0;one 0 0;come 1;"), 1, 0, 2);
         orderIs(Due.told("inn 0 7;one 0 3;one 0 0;one 0 0;come 1;"), 2, 0, 2);
         orderIs(Due.told("inn 5 7;one 0 5;one 1 0;one 0 2;one 0 5;one 2 2;"), 3, 0, 1, 2, 4, 3);
+        InnTurned y = Due.told("inn 0 7;one 0 9;one 0 4;one 0 0;");
+        orderIs(y, 2, 1, 0, 2);
+        y.comes(1);
+        orderIs(y, 1, 0, 2);
+        y.comes(2);
+        orderIs(y, 0, 0);
+        y.inn(0, 7);
+        orderIs(y, 0);
         Due.due("below NONE", x.order(-2), -10);
         Due.due("counts as BAD", x.status(0), 1);
         Due.due("not so many is no BAD", x.order(7), -5);

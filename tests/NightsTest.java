@@ -142,12 +142,32 @@ public final class NightsTest {
         Due.due("undo of a coming", x.undo(), 0);
         Due.due("as at first", x.digest(), atFirst);
         Due.due("no more", x.undo(), -3);
+        undoOfSeven();
+        x = Due.told("inn 0 1;one 0 4;one 0 0;");
         for (int k = 1; k <= 12; k++) {
             x.nights(1);
             Due.due("may be undone", x.count(7), Math.min(k, 8));
         }
         for (int k = 11; k >= 4; k--) Due.due("undo", x.undo(), k);
         Due.due("eight at most", x.undo(), -3);
+    }
+
+    private static void undoOfSeven() {
+        InnTurned x = Due.told("inn 4 7;wet 4;one 0 1;one 1 2;one 2 3;one 3 4;one 4 5;one 5 6;one 0 7;");
+        for (int round = 0; round < 3; round++) {
+            long[] digests = new long[8];
+            for (int k = 0; k < 8; k++) {
+                digests[k] = x.digest();
+                if (k == 7) x.letter(round, 9);
+                else if (x.of(k, 3) == 1) x.goes(k);
+                else x.comes(k);
+            }
+            for (int k = 7; k > round; k--) {
+                x.undo();
+                Due.due("as it was, but for what may be undone", x.digest(), digests[k]);
+            }
+            x.landlord(4);
+        }
     }
 
     private static void undoIsForgotten() {

@@ -100,6 +100,7 @@ public final class OftenTest {
         Due.due("at no word, most are told apart: 9 of 31 let in", x.tell(0), 0);
         x.seen(0, 4, 0, 1);
         Due.due("one number is left", x.often(0, 0), 1);
+        oftenIs(x, 0, 1, 0, 0);
         Due.due("the least of like ones", x.tell(0), 0);
         x.forget(0);
         x.seen(0, 2, 0, 1);
@@ -123,6 +124,26 @@ public final class OftenTest {
         Due.due("a king on night 10, not on night 4", x.tell(0), 100);
         x = Due.told("inn 0 3;one 4 0;");
         Due.due("a beard needs a word to be told", x.tell(0), 1);
+        x = Due.told("inn 2 3;one 2 0;wet 4;");
+        x.seen(0, 0, 0, 0);
+        Due.due("26 to 30 are left", x.often(0, 1) * 100 + x.often(0, 2), 2630);
+        Due.due("none of them is let in by any word", x.tell(0), 0);
+        x.landlord(4);
+        x.wet(0, 0);
+        x.wet(1, 4);
+        x.forget(0);
+        x.seen(0, 0, 0, 0);
+        Due.due("18 to 30 are left", x.often(0, 0), 13);
+        x.wet(2, 3);
+        Due.due("on night 2 he lets 11 pass: 18 to 23, 6 of 13", x.tell(0), 20);
+        x = Due.told("inn 2 3;wet 0 1;one 1 0;");
+        x.seen(0, 2, 1, 1);
+        Due.due("0 and 1 are left", x.often(0, 1) * 10 + x.often(0, 2), 1);
+        Due.due("word 2 parts them", x.tell(0), 2);
+        x = Due.told("inn 2 3;wet 4 4 4 4 4 4;one 2 0;");
+        x.seen(0, 8, 0, 1);
+        Due.due("0 to 9 are left", x.often(0, 1) * 10 + x.often(0, 2), 9);
+        Due.due("word 9 alone parts them", x.tell(0), 9);
     }
 
     private static void note() {
@@ -315,7 +336,7 @@ public final class OftenTest {
         Due.promise("promise 32");
         InnTurned x = Due.told("inn 4 7;wet 4 4 4 4 4 4;one 0 0;one 0 0;one 0 0;one 0 0;one 0 0;");
         long was = x.digest();
-        for (int seed = 0; seed < 40; seed++) {
+        for (int seed = 0; seed < 20; seed++) {
             for (int n = 0; n <= 60; n += 4) Due.due("decades(" + seed + ", " + n + ")", x.decades(seed, n), toggled(seed, n, 5));
         }
         Due.due("decades(999999, 60)", x.decades(999999, 60), toggled(999999, 60, 5));
@@ -328,6 +349,27 @@ public final class OftenTest {
         Due.due("no steps: who is in", x.decades(5, 0), 1);
         x = Due.told("inn 0 0;one 0 0;one 0 0;one 0 0;one 0 0;one 0 0;one 0 0;one 0 0;");
         Due.due("no rooms", x.decades(77, 60), 0);
+        String told = "inn 2 2;wet 1 0 3 0 2 4;one 0 3;one 1 2;one 3 1;one 4 0;one 5 2;come 0;";
+        for (int seed = 0; seed < 300; seed++) {
+            for (int kind = 0; kind < 6; kind++) {
+                x = Due.told(told);
+                x.landlord(kind);
+                int due = x.decades(seed, 60);
+                Due.due("decades(" + seed + ", 60), landlord " + kind, due, stepped(x, seed, 60));
+            }
+        }
+    }
+
+    /** The same by comings, goings and nights themselves. */
+    private static int stepped(InnTurned x, long seed, int n) {
+        for (int k = 0; k < n; k++) {
+            seed = (seed * 1103515245L + 12345L) % 2147483648L;
+            int i = (int) (seed / 65536 % 8);
+            if (i >= x.count(0)) x.nights(1);
+            else if (x.of(i, 3) == 1) x.goes(i);
+            else x.comes(i);
+        }
+        return x.count(1);
     }
 
     /** By a landlord who sleeps each night, with a room for each, who comes is in: one bit each. */

@@ -79,7 +79,7 @@ public final class InnTurned {
 
     public int read() {
         int items = reader.build();
-        if (items >= 0) house.copy(spare);
+        if (items > 0) house.copy(spare);
         return items;
     }
 
@@ -702,7 +702,7 @@ public final class InnTurned {
         }
 
         private boolean waits(int i, int came) {
-            return (all & ~came & 1 << i) != 0;
+            return (all & ~came & (1 << i)) != 0;
         }
 
         private int letsBehind(House house, int came) {
@@ -720,7 +720,6 @@ public final class InnTurned {
     /** What fits what was told, and what to try next so that it tells most. */
     private static final class Wits {
         private static final int VISITS_TRIED = 30, NIGHTS_TOLD = 14, NIGHTS_LOOKED = 7;
-        private static final int ALL_KINDS = (1 << KINDS) - 1;
 
         private final int[] answers = new int[KINDS];
 
@@ -901,7 +900,7 @@ public final class InnTurned {
 
     /** THE TEXT, and its TOKENS one behind the other. */
     private static final class Script {
-        private static final int END = 0, BLANK = 1, NAME = 2, NUMBER = 3, STOP = 4, NOTHING = 5;
+        private static final int END = 0, NAME = 1, NUMBER = 2, STOP = 3, NOTHING = 4;
 
         private final byte[] bytes = new byte[TEXT_BYTES];
         private int size, next;
@@ -954,9 +953,9 @@ public final class InnTurned {
             return place >= 0 && place < size && place < TEXT_BYTES ? bytes[place] : NONE;
         }
 
+        /** What a TOKEN is that begins with c; a blank begins none. */
         private static int sort(int c) {
             if (c == NONE) return END;
-            if (c == ' ') return BLANK;
             if (c >= 'a' && c <= 'z') return NAME;
             if (c >= '0' && c <= '9') return NUMBER;
             return c == ';' ? STOP : NOTHING;
