@@ -22,8 +22,8 @@ public final class InnTurned {
     private final House house = new House(), spare = new House();
     private final House image0 = new House(), image1 = new House();
     private final Script script = new Script();
-    private final Reader reader = new Reader(script, spare);
-    private final Queue queue = new Queue();
+    private final Telling telling = new Telling(script, spare);
+    private final Lineup lineup = new Lineup();
     private final Wits wits = new Wits();
     private boolean kept0, kept1;
     private int above = 0, below = 1;
@@ -78,7 +78,7 @@ public final class InnTurned {
     }
 
     public int read() {
-        int items = reader.build();
+        int items = telling.build();
         if (items > 0) house.copy(spare);
         return items;
     }
@@ -170,9 +170,9 @@ public final class InnTurned {
             bad();
             return BAD_PLACE;
         }
-        queue.arrange(house);
-        if (k == NONE) return queue.let;
-        return k < queue.length ? queue.place(k) : NO_SUCH_PLACE;
+        lineup.arrange(house);
+        if (k == NONE) return lineup.let;
+        return k < lineup.length ? lineup.place(k) : NO_SUCH_PLACE;
     }
 
     // ---- how often one was there
@@ -649,7 +649,7 @@ public final class InnTurned {
      * many have come; ROOMS only cut the number of those let IN. So sets of who has come are enough,
      * and no order need be tried out.
      */
-    private static final class Queue {
+    private static final class Lineup {
         private static final int SETS = 1 << GUESTS;
 
         /** By who has come: how many of the others could still be let IN, were there ROOMS for all. */
@@ -963,11 +963,11 @@ public final class InnTurned {
     }
 
     /** Builds the INN that THE TEXT tells in a house kept for it, so that at a FAULT all stays. */
-    private static final class Reader {
+    private static final class Telling {
         private final Script script;
         private final House site;
 
-        Reader(Script script, House site) {
+        Telling(Script script, House site) {
             this.script = script;
             this.site = site;
         }
