@@ -1,6 +1,3 @@
-import java.lang.reflect.Method;
-import java.util.Arrays;
-
 /**
  * Long rows of calls, always the same, on an InnTurned and on the second inn, Plain: each answer and, behind
  * each call, the digest must be the same; what refusals there were, too. Numbers are mostly as told, now and
@@ -22,7 +19,7 @@ public final class AgainstPlainTest {
     private static InnTurned x;
     private static Plain y;
 
-    public static void main(String[] args) throws ReflectiveOperationException {
+    public static void main(String[] args) {
         int total = 0;
         for (int weight : WEIGHTS) total += weight;
         for (int row = 0; row < ROWS; row++) {
@@ -63,14 +60,14 @@ public final class AgainstPlainTest {
         return number(0, Math.max(0, y.count(0) - 1));
     }
 
-    private static boolean call(int row, int place, StringBuilder calls) throws ReflectiveOperationException {
+    private static boolean call(int row, int place, StringBuilder calls) {
         String name = NAMES[place];
         int a = first(name), b = second(name, a), c = third(name), d = name.equals("seen") ? number(0, 1) : number(0, 99);
         int e = name.equals("note") ? noted(a, b, c, d) : 0;
         calls.append(name + "(" + a + " " + b + " " + c + " " + d + " " + e + ")");
         if (name.equals("read") && asked < CALLS - 160) typeText();
         asked += 2;
-        long got = ask(x, name, a, b, c, d, e), want = ask(y, name, a, b, c, d, e);
+        long got = Inns.ask(x, name, a, b, c, d, e), want = Inns.ask(y, name, a, b, c, d, e);
         Due.promise("row " + row + ": " + (got == want ? "" : calls.toString()));
         Due.due(name, got, want);
         long was = x.digest(), due = y.digest();
@@ -159,15 +156,5 @@ public final class AgainstPlainTest {
         if (way == 1) text.deleteCharAt(place);
         if (way == 2) text.insert(place, other.charAt(upTo(other.length())));
         if (way == 3) text.setLength(place);
-    }
-
-    /** Calls by name, with as many of the numbers as it takes. */
-    private static long ask(Object inn, String name, Integer... numbers) throws ReflectiveOperationException {
-        for (Method method : inn.getClass().getDeclaredMethods()) {
-            if (!method.getName().equals(name)) continue;
-            Object[] told = Arrays.copyOf(numbers, method.getParameterCount(), Object[].class);
-            return ((Number) method.invoke(inn, told)).longValue();
-        }
-        throw new NoSuchMethodException(name);
     }
 }

@@ -61,7 +61,6 @@ public final class FaceTest {
         int seen = 0;
         for (Field field : face.getDeclaredFields()) {
             if (!Modifier.isPrivate(field.getModifiers())) seen++;
-            if (Modifier.isStatic(field.getModifiers())) Due.holds(field + " is final", Modifier.isFinal(field.getModifiers()));
         }
         Due.due("fields that can be seen", seen, 4);
     }
@@ -70,8 +69,21 @@ public final class FaceTest {
         for (Class<?> own : face.getDeclaredClasses()) {
             boolean hidden = !Modifier.isPublic(own.getModifiers()) && !Modifier.isProtected(own.getModifiers());
             Due.holds(own + " is static and hidden", hidden && Modifier.isStatic(own.getModifiers()));
+            fieldsAreFew(own);
         }
-        Due.holds("twelve classes at most", face.getDeclaredClasses().length <= 11);
+        fieldsAreFew(face);
+        Due.holds("some twelve classes at most", face.getDeclaredClasses().length <= 13);
+    }
+
+    /** No static state; some twenty fields a class at most, beside its constants. */
+    private static void fieldsAreFew(Class<?> face) {
+        int own = 0;
+        for (Field field : face.getDeclaredFields()) {
+            boolean isFinal = Modifier.isFinal(field.getModifiers());
+            if (Modifier.isStatic(field.getModifiers())) Due.holds(field + " is final", isFinal);
+            else own++;
+        }
+        Due.holds("the fields of " + face, own <= 24);
     }
 
     private static void constants() {
