@@ -3,10 +3,10 @@ import java.lang.management.ManagementFactory;
 
 /**
  * All calls of one run live in one room (some 600,000 objects and arrays, 7.3 million fields and elements), so
- * that what the dearest calls make is weighed: 512 of them, and a new inn, may not come near to it.
+ * that what the dearest calls make is weighed: 512 of them, and a new inn, must be less than all of it.
  */
 public final class RoomTest {
-    private static final long MOST_BYTES = 12_000_000;
+    private static final long MOST_BYTES = 4 * 7_300_000;
     private static final String[] CALLS = {"order", "tell", "often", "look", "ask", "may, when, pen", "decades", "read", "read of a fault",
         "image, from", "nights, undo", "comes, goes", "inn, one", "seen, note, mark, forget", "rain, part", "digest, count"};
     private static final ThreadMXBean THREADS = (ThreadMXBean) ManagementFactory.getThreadMXBean();
@@ -23,7 +23,7 @@ public final class RoomTest {
         }
         long before = made();
         InnTurned x = new InnTurned();
-        Due.holds("a new inn", made() - before < MOST_BYTES / 100 && x.count(0) == 0);
+        Due.holds("a new inn", made() - before < MOST_BYTES / 200 && x.count(0) == 0);
         Due.end();
     }
 
