@@ -28,7 +28,7 @@ public final class RoomTest {
     }
 
     private static long made() {
-        return THREADS.getThreadAllocatedBytes(Thread.currentThread().getId());
+        return THREADS.getCurrentThreadAllocatedBytes();
     }
 
     private static long call(InnTurned x, int sort, int i) {
