@@ -6,7 +6,7 @@ import java.util.regex.Pattern;
 
 /**
  * What can be seen in the source itself of the rules of ../shared/LANGUAGE.md, by their numbers (the first is
- * FaceTest's, what calls make is RoomTest's); run from the project's folder.
+ * FaceTest's, how deep calls go is CallsTest's, what they make is RoomTest's); run from the project's folder.
  */
 public final class LanguageTest {
     private static final String METHOD = " {4,12}[\\w<>\\[\\] ]+\\((.*)\\) \\{";

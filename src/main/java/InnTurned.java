@@ -22,7 +22,6 @@ public final class InnTurned {
     private final House house = new House(), spare = new House();
     private final House image0 = new House(), image1 = new House();
     private final Script script = new Script();
-    private final Telling telling = new Telling(script, spare);
     private final Lineup lineup = new Lineup();
     private final Wits wits = new Wits();
     private boolean kept0, kept1;
@@ -78,7 +77,7 @@ public final class InnTurned {
     }
 
     public int read() {
-        int items = telling.build();
+        int items = Telling.build(script, spare);
         if (items > 0) house.copy(spare);
         return items;
     }
@@ -964,102 +963,97 @@ public final class InnTurned {
 
     /** Builds the INN that THE TEXT tells in a house kept for it, so that at a FAULT all stays. */
     private static final class Telling {
-        private final Script script;
-        private final House site;
-
-        Telling(Script script, House site) {
-            this.script = script;
-            this.site = site;
+        private Telling() {
         }
 
         /** How many ITEMS. A TOKEN that can not stand is always the last one read: there is the FAULT. */
-        int build() {
+        static int build(Script script, House site) {
             script.rewind();
-            boolean stands = opening();
+            boolean stands = opening(script, site);
             for (int items = 1; stands && items <= TEXT_BYTES; items++) {
                 script.advance();
                 if (script.token == Script.END) return items;
-                if (script.names("wet")) stands = wetItem();
-                else if (script.names("one")) stands = guestItem();
-                else if (script.names("come")) stands = comeItem();
-                else if (script.names("go")) stands = goItem();
-                else if (script.names("letter")) stands = letterItem();
-                else stands = script.names("nights") && nightsItem();
+                if (script.names("wet")) stands = wetItem(script, site);
+                else if (script.names("one")) stands = guestItem(script, site);
+                else if (script.names("come")) stands = comeItem(script, site);
+                else if (script.names("go")) stands = goItem(script, site);
+                else if (script.names("letter")) stands = letterItem(script, site);
+                else stands = script.names("nights") && nightsItem(script, site);
             }
             return FAULT_ANSWER - script.start;
         }
 
-        private boolean opening() {
+        private static boolean opening(Script script, House site) {
             script.advance();
             if (!script.names("inn")) return false;
-            int kind = numberWithin(0, KINDS - 1);
+            int kind = numberWithin(script, 0, KINDS - 1);
             if (kind < 0) return false;
-            int rooms = numberWithin(0, MOST_ROOMS);
+            int rooms = numberWithin(script, 0, MOST_ROOMS);
             if (rooms < 0) return false;
             site.begin(kind, rooms);
-            return stops();
+            return stops(script);
         }
 
-        private boolean wetItem() {
+        private static boolean wetItem(Script script, House site) {
             for (int n = 0; n < WETS; n++) {
                 script.advance();
                 if (n > 0 && script.token == Script.STOP) return true;
-                if (!isNumberWithin(0, WETTEST)) return false;
+                if (!isNumberWithin(script, 0, WETTEST)) return false;
                 site.setWet(n, script.number);
             }
-            return stops();
+            return stops(script);
         }
 
-        private boolean guestItem() {
+        private static boolean guestItem(Script script, House site) {
             if (site.guests.isFull()) return false;
-            int kind = numberWithin(0, KINDS - 1);
+            int kind = numberWithin(script, 0, KINDS - 1);
             if (kind < 0) return false;
-            int word = numberWithin(0, MOST_WORD);
+            int word = numberWithin(script, 0, MOST_WORD);
             if (word < 0) return false;
             site.welcome(kind, word);
-            return stops();
+            return stops(script);
         }
 
-        private boolean comeItem() {
-            int i = numberWithin(0, site.guests.rows - 1);
+        private static boolean comeItem(Script script, House site) {
+            int i = numberWithin(script, 0, site.guests.rows - 1);
             if (i < 0 || site.isIn(i)) return false;
             site.arrive(i);
-            return stops();
+            return stops(script);
         }
 
-        private boolean goItem() {
-            int i = numberWithin(0, site.guests.rows - 1);
+        private static boolean goItem(Script script, House site) {
+            int i = numberWithin(script, 0, site.guests.rows - 1);
             if (i < 0 || !site.isIn(i)) return false;
             site.leave(i);
-            return stops();
+            return stops(script);
         }
 
-        private boolean letterItem() {
-            int i = numberWithin(0, site.guests.rows - 1);
+        private static boolean letterItem(Script script, House site) {
+            int i = numberWithin(script, 0, site.guests.rows - 1);
             if (i < 0) return false;
-            int word = numberWithin(0, MOST_WORD);
+            int word = numberWithin(script, 0, MOST_WORD);
             if (word < 0) return false;
             site.guests.put(i, WORD, word);
-            return stops();
+            return stops(script);
         }
 
-        private boolean nightsItem() {
-            int n = numberWithin(1, NIGHTS_AT_ONCE);
+        private static boolean nightsItem(Script script, House site) {
+            int n = numberWithin(script, 1, NIGHTS_AT_ONCE);
             if (n < 0) return false;
             site.sleep(n);
-            return stops();
+            return stops(script);
         }
 
-        private int numberWithin(int least, int most) {
+        private static int numberWithin(Script script, int least, int most) {
             script.advance();
-            return isNumberWithin(least, most) ? script.number : NONE;
+            return isNumberWithin(script, least, most) ? script.number : NONE;
         }
 
-        private boolean isNumberWithin(int least, int most) {
+        private static boolean isNumberWithin(Script script, int least, int most) {
             return script.token == Script.NUMBER && within(script.number, least, most);
         }
 
-        private boolean stops() {
+        private static boolean stops(Script script) {
             script.advance();
             return script.token == Script.STOP;
         }
